@@ -256,7 +256,7 @@ public final class TapeHouse {
         if (sounds.count >= MOST_SOUNDS) {
             return FULL;
         }
-        int made = sounds.addSilence(n);
+        int made = sounds.addRow(n);
         for (int i = 0; i < n; i++) {
             sounds.setFloat(made, i, heardAt(t + i));
         }
@@ -626,21 +626,19 @@ public final class TapeHouse {
         private final int[] lengths = new int[MOST_SOUNDS];
         private int count = 0;
 
-        private int addSilence(int n) {
+        // Its floats are what an earlier sound left there: the caller sets each of them.
+        private int addRow(int n) {
             if (count >= MOST_SOUNDS || !isWithin(n, 1, MOST_FLOATS)) {
                 return NONE;
             }
             int made = count;
             lengths[made] = n;
-            for (int i = 0; i < n; i++) {
-                rows[made][i] = 0f;
-            }
             count = made + 1;
             return made;
         }
 
         private int addTone(int a, int b, int n) {
-            int made = addSilence(n);
+            int made = addRow(n);
             for (int i = 0; i < n; i++) {
                 setFloat(made, i, (float) ((a * i + b) % TONE_RING - TONE_MIDDLE));
             }
@@ -945,7 +943,6 @@ public final class TapeHouse {
             size = n;
             for (int i = 0; i < MOST_PLACES; i++) {
                 sorts[i] = 0;
-                numbers[i] = 0;
             }
         }
 

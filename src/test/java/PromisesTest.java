@@ -161,6 +161,12 @@ public final class PromisesTest {
         dueFault(x, "househouse", 0);
         dueFault(x, "hous", 0);
         dueFault(x, "houses", 0);
+        dueFault(x, "housez", 0);
+        dueFault(x, "ahouse", 0);
+        dueFault(x, "house{", 5);
+        dueFault(x, "house`", 5);
+        dueFault(x, "tone 1 1 1:", 10);
+        dueFault(x, "tone 1 1 1/", 10);
         dueFault(x, "hou se", 0);
         dueFault(x, "House", 0);
         dueFault(x, "house.", 5);
@@ -262,6 +268,17 @@ public final class PromisesTest {
         dueFault(x, "tone 1 1 1;tone 1 1 1;house;tone 1 1 1", -1);
         dueFault(x, "house;put 0 0 0 1 0", 12);
         due("count(0)", x.count(0), 4);
+        TapeHouse y = new TapeHouse();
+        for (int s = 0; s < 6; s++) {
+            due("a sound not by text", s % 2 == 0 ? y.tone(1, 1, 10 * s + 1) : y.bounce(0, 10 * s + 1), s);
+            dueFault(y, "put 0 " + s + " " + 10 * s + " 1 0", -1);
+            dueFault(y, "put 0 " + s + " 0 " + (10 * s + 1) + " 0", -1);
+            dueFault(y, "put 0 " + s + " " + (10 * s + 1) + " 1 0", 8);
+            dueFault(y, "put 0 " + s + " 0 " + (10 * s + 2) + " 0", 10);
+            dueFault(y, "put 0 " + (s + 1) + " 0 1 0", 6);
+        }
+        dueFault(y, "tone 1 1 1", 0);
+        dueFault(y, "shut 0;put 0 5 50 1 0;tone 1 1 1", 22);
     }
 
     private static void houses() {
@@ -1096,6 +1113,15 @@ public final class PromisesTest {
         due("likeness(0, 0)", x.likeness(0, 0), 1);
         due("take(0, 1)", x.take(0, 1), 4);
         due("of none", x.likeness(1, 0), 0);
+        x.rack(0, 0, 8);
+        for (int i = 0; i < 8; i++) {
+            x.hang(0, i, 1 + i % 2, 10 * i);
+        }
+        due("all places", x.likeness(1, 0), 8);
+        for (int i = 0; i < 8; i++) {
+            due("take(1, " + i + ")", x.take(1, i), i % 2 * 100 + 10 * i);
+        }
+        due("drop(0)", x.drop(0), 8);
         due("count(12)", x.count(12), 0);
     }
 
@@ -1190,6 +1216,22 @@ public final class PromisesTest {
         due("silent, as they end each other", x.count(7), 126);
         x.put(2, 1, 0, 1, 0);
         due("no gap ahead of it, one behind", x.count(10), 1);
+        due("moments", x.count(6), 100);
+        x.gain(2, 0, 16);
+        due("the greatest is the first", x.count(6), 0);
+        x.put(3, 0, 0, 1, 127);
+        x.gain(3, 0, 15);
+        due("of less", x.count(6), 0);
+        x.put(3, 0, 0, 2, 126);
+        x.gain(3, 0, 16);
+        x.gain(2, 0, 8);
+        due("the last but one", x.count(6), 126);
+        x.cut(3, 127);
+        x.gain(3, 0, 1);
+        due("the last one", x.count(6), 127);
+        x = told("tone 0 150 9;put 0 0 0 1 1;put 1 0 0 1 0;put 1 0 0 1 2;put 1 0 0 2 3");
+        due("a gap of one ahead", x.count(8), 1);
+        due("a gap of one between", x.count(9), 1);
     }
 
     public static void main(String[] args) {

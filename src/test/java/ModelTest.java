@@ -10,15 +10,16 @@ public final class ModelTest {
     private final TapeHouse x = new TapeHouse();
     private final Model y = new Model();
     private final StringBuilder log = new StringBuilder();
-    private String waiting = "";
+    private boolean calm = false;
     private boolean wrong = false;
 
     private ModelTest(long seed) {
         chance = new Random(seed);
     }
 
-    // A number from least to most, now and then just beside, now and then far off.
+    // A number from least to most; unless it is calm, now and then just beside, now and then far off.
     private int near(int least, int most) {
+        if (calm) return least + chance.nextInt(most - least + 1);
         int kind = chance.nextInt(60);
         if (kind == 0) return FAR[chance.nextInt(FAR.length)];
         if (kind == 1) return most + 1;
@@ -28,12 +29,13 @@ public final class ModelTest {
         return least + chance.nextInt(most - least + 1);
     }
 
-    private void same(String call, long got, long want) {
+    private long same(String call, long got, long want) {
         log.append(call).append(" -> ").append(got).append('\n');
         if (got != want && !wrong) {
             wrong = true;
             System.out.println(log + "the model answered " + want);
         }
+        return got;
     }
 
     private String clause() {
@@ -42,7 +44,7 @@ public final class ModelTest {
             case 1: case 2: return "tone " + near(0, 200) + " " + near(0, 200) + " " + near(1, 64);
             case 3: case 4: case 5: case 6:
                 int m = near(1, 20);
-                return "put " + near(0, 3) + " " + chance.nextInt(3) + " " + chance.nextInt(4) + " " + m + " " + near(0, 128 - Math.max(0, Math.min(m, 64)));
+                return "put " + near(0, 3) + " " + (chance.nextInt(5) == 0 ? chance.nextInt(3) : 0) + " " + chance.nextInt(4) + " " + m + " " + near(0, 128 - Math.max(0, Math.min(m, 64)));
             case 7: case 8: return "fade " + near(0, 3) + " " + near(0, 3) + " " + near(0, 10) + " " + near(0, 10);
             case 9: case 10: return "gain " + near(0, 3) + " " + near(0, 3) + " " + near(0, 16);
             case 11: return "shift " + near(0, 3) + " " + (chance.nextBoolean() ? "" : chance.nextBoolean() ? "-" : "- ") + near(0, 16);
@@ -67,29 +69,27 @@ public final class ModelTest {
         return text.toString();
     }
 
-    private void letter() {
-        if (waiting.isEmpty() && chance.nextInt(4) > 0) {
-            int odd = near(0, 255);
-            same("write(" + odd + ")", x.write(odd), y.write(odd));
-            return;
-        }
-        if (waiting.isEmpty()) waiting = text();
+    private void aText() {
+        calm = chance.nextInt(3) > 0;
+        String text = text();
+        calm = false;
         same("erase()", x.erase(), y.erase());
-        for (int i = 0; i < waiting.length(); i++) {
-            int c = waiting.charAt(i);
+        for (int i = 0; i < text.length(); i++) {
+            int c = text.charAt(i);
             same("write(" + c + ")", x.write(c), y.write(c));
         }
-        waiting = "";
         same("fault()", x.fault(), y.fault());
-        same("house()", x.house(), y.house());
+        if (same("house()", x.house(), y.house()) >= 0) lookAtAll();
     }
 
     private void tell() {
         int track = near(0, 3), span = near(0, 5), what = near(0, 6), i = near(0, 63), sound = near(0, 5);
-        switch (chance.nextInt(8)) {
-            case 0: letter(); break;
+        switch (chance.nextInt(10)) {
+            case 0: case 8: case 9: aText(); break;
             case 1: if (chance.nextInt(4) == 0) same("erase()", x.erase(), y.erase()); break;
-            case 2: same("fault()", x.fault(), y.fault()); break;
+            case 2: int letter = near(0, 255);
+                same("write(" + letter + ")", x.write(letter), y.write(letter));
+                same("fault()", x.fault(), y.fault()); break;
             case 3: same("house()", x.house(), y.house()); break;
             case 4: case 5: same("sound(" + sound + ", " + what + ", " + i + ")", x.sound(sound, what % 5, i), y.sound(sound, what % 5, i)); break;
             default: same("span(" + track + ", " + span + ", " + what + ")", x.span(track, span, what), y.span(track, span, what)); break;

@@ -7,7 +7,7 @@ import java.util.regex.Matcher;
 import java.util.regex.Pattern;
 
 // The document once more, written otherwise than TapeHouse: moment by moment, with the Java library, slow and plain.
-final class Model {
+final class Model implements Calls {
     static final int NONE = -1, UNKNOWN = -2000000001, OUTSIDE = -2000000002, NOT = -2000000003, FULL = -2000000004;
     static final int NULL = -2000000011, SIZE = -2000000012, INDEX = -2000000013, STORE = -2000000014, EMPTY = -2000000015;
 
@@ -42,14 +42,27 @@ final class Model {
         }
     }
 
-    int write(int letter) {
+    // Pieces, lanes and sounds are never changed, so a likeness may share them.
+    Model(Model other) {
+        sounds.addAll(other.sounds);
+        lanes.addAll(other.lanes);
+        shut.addAll(other.shut);
+        for (ArrayDeque<Lane> undo : other.undos) undos.add(new ArrayDeque<>(undo));
+        System.arraycopy(other.kept, 0, kept, 0, kept.length);
+        for (int r = 0; r < stands.length; r++) stands[r] = other.stands[r] == null ? null : likenessOf(other.stands[r]);
+        text = other.text;
+    }
+
+    @Override
+    public int write(int letter) {
         if (letter < 0 || letter > 255) return OUTSIDE;
         if (text.length() == 200) return FULL;
         text += (char) letter;
         return text.length();
     }
 
-    int erase() {
+    @Override
+    public int erase() {
         int n = text.length();
         text = "";
         return n;
@@ -146,7 +159,8 @@ final class Model {
         return 0;
     }
 
-    int fault() {
+    @Override
+    public int fault() {
         try {
             parse();
             return NONE;
@@ -155,7 +169,8 @@ final class Model {
         }
     }
 
-    int house() {
+    @Override
+    public int house() {
         if (fault() != NONE) return NOT;
         List<Supplier<?>> deeds = parse();
         for (Supplier<?> deed : deeds) deed.get();
@@ -168,7 +183,8 @@ final class Model {
 
     // ---- told
 
-    int sound(int sound, int what, int i) {
+    @Override
+    public int sound(int sound, int what, int i) {
         if (sound < 0 || sound >= sounds.size()) return UNKNOWN;
         float[] row = sounds.get(sound);
         if (what == 0) return row.length;
@@ -185,7 +201,8 @@ final class Model {
         return times;
     }
 
-    int span(int track, int span, int what) {
+    @Override
+    public int span(int track, int span, int what) {
         if (!isPiece(track, span)) return UNKNOWN;
         Piece p = lanes.get(track).pieces.get(span);
         int[] all = {p.sound, p.f, p.m, p.t, p.gain, p.in, p.out};
@@ -203,7 +220,8 @@ final class Model {
 
     // ---- done
 
-    int tone(int a, int b, int n) {
+    @Override
+    public int tone(int a, int b, int n) {
         if (a < 0 || a > 200 || b < 0 || b > 200 || n < 1 || n > 64) return OUTSIDE;
         if (sounds.size() == 6) return FULL;
         float[] row = new float[n];
@@ -251,7 +269,8 @@ final class Model {
         return change(track, pieces, lanes.get(track).shift);
     }
 
-    int put(int track, int sound, int f, int m, int t) {
+    @Override
+    public int put(int track, int sound, int f, int m, int t) {
         if (track < 0 || track > 3 || sound < 0 || sound >= sounds.size()) return UNKNOWN;
         if (f < 0 || m < 1 || t < 0 || (long) f + m > sounds.get(sound).length || (long) t + m > 128) return OUTSIDE;
         return change(track, with(lanes.get(track).pieces, new Piece(sound, f, m, t, 8, 0, 0)));
@@ -263,7 +282,8 @@ final class Model {
         change(track, pieces);
     }
 
-    int fade(int track, int span, int in, int out) {
+    @Override
+    public int fade(int track, int span, int in, int out) {
         if (!isPiece(track, span)) return UNKNOWN;
         Piece p = lanes.get(track).pieces.get(span);
         if (in < 0 || out < 0 || (long) in + out > p.m) return OUTSIDE;
@@ -271,7 +291,8 @@ final class Model {
         return p.in;
     }
 
-    int gain(int track, int span, int gain) {
+    @Override
+    public int gain(int track, int span, int gain) {
         if (!isPiece(track, span)) return UNKNOWN;
         if (gain < 0 || gain > 16) return OUTSIDE;
         Piece p = lanes.get(track).pieces.get(span);
@@ -279,13 +300,15 @@ final class Model {
         return p.gain;
     }
 
-    int wipe(int track, int from, int to) {
+    @Override
+    public int wipe(int track, int from, int to) {
         if (track < 0 || track > 3) return UNKNOWN;
         if (from < 0 || from > 127 || to < from || to > 128) return OUTSIDE;
         return change(track, without(lanes.get(track).pieces, from, to));
     }
 
-    int cut(int track, int moment) {
+    @Override
+    public int cut(int track, int moment) {
         if (track < 0 || track > 3) return UNKNOWN;
         if (moment < 1 || moment > 127) return OUTSIDE;
         List<Piece> pieces = new ArrayList<>(lanes.get(track).pieces);
@@ -301,7 +324,8 @@ final class Model {
         return NOT;
     }
 
-    int move(int track, int span, int t) {
+    @Override
+    public int move(int track, int span, int t) {
         if (!isPiece(track, span)) return UNKNOWN;
         List<Piece> pieces = new ArrayList<>(lanes.get(track).pieces);
         Piece p = pieces.remove(span);
@@ -309,7 +333,8 @@ final class Model {
         return change(track, with(pieces, new Piece(p.sound, p.f, p.m, t, p.gain, p.in, p.out)));
     }
 
-    int shift(int track, int n) {
+    @Override
+    public int shift(int track, int n) {
         if (track < 0 || track > 3) return UNKNOWN;
         if (n < -16 || n > 16) return OUTSIDE;
         Lane lane = lanes.get(track);
@@ -317,13 +342,15 @@ final class Model {
         return lane.shift;
     }
 
-    int shut(int track) {
+    @Override
+    public int shut(int track) {
         if (track < 0 || track > 3) return UNKNOWN;
         shut.set(track, !shut.get(track));
         return shut.get(track) ? 1 : 0;
     }
 
-    int bounce(int t, int n) {
+    @Override
+    public int bounce(int t, int n) {
         if (n < 1 || n > 64 || t < 0 || t > 128 - n) return OUTSIDE;
         if (sounds.size() == 6) return FULL;
         float[] row = new float[n];
@@ -332,7 +359,8 @@ final class Model {
         return sounds.size() - 1;
     }
 
-    int undo(int track) {
+    @Override
+    public int undo(int track) {
         if (track < 0 || track > 3) return UNKNOWN;
         if (undos.get(track).isEmpty()) return NOT;
         lanes.set(track, undos.get(track).pop());
@@ -343,13 +371,15 @@ final class Model {
         return lanes.stream().mapToInt(lane -> lane.pieces.size()).sum();
     }
 
-    int keep(int k) {
+    @Override
+    public int keep(int k) {
         if (k != 0 && k != 1) return OUTSIDE;
         kept[k] = new Kept(List.copyOf(lanes), List.copyOf(shut));
         return pieces();
     }
 
-    int back(int k) {
+    @Override
+    public int back(int k) {
         if (k != 0 && k != 1) return OUTSIDE;
         if (kept[k] == null) return NOT;
         for (int i = 0; i < 4; i++) {
@@ -381,27 +411,32 @@ final class Model {
         return all;
     }
 
-    int heard(int moment) {
+    @Override
+    public int heard(int moment) {
         return moment < 0 || moment > 127 ? OUTSIDE : (int) (level(moment) * 16);
     }
 
-    long exact(int moment) {
+    @Override
+    public long exact(int moment) {
         return moment < 0 || moment > 127 ? OUTSIDE : Float.floatToRawIntBits(level(moment));
     }
 
-    long sum(int t, int u) {
+    @Override
+    public long sum(int t, int u) {
         if (t < 0 || u > 127 || t > u) return OUTSIDE;
         double all = 0;
         for (int moment = t; moment <= u; moment++) all += level(moment);
         return Double.doubleToRawLongBits(all);
     }
 
-    int played(int track, int moment) {
+    @Override
+    public int played(int track, int moment) {
         if (track < 0 || track > 3) return UNKNOWN;
         return moment < 0 || moment > 127 ? OUTSIDE : (int) (playing(track, moment) * 16);
     }
 
-    int covers(int track, int m, int t) {
+    @Override
+    public int covers(int track, int m, int t) {
         if (track < 0 || track > 3) return UNKNOWN;
         if (m < 1 || m > 64 || t < 0 || t > 128 - m) return OUTSIDE;
         int n = 0;
@@ -411,7 +446,8 @@ final class Model {
 
     // ---- racks
 
-    int rack(int rack, int sort, int n) {
+    @Override
+    public int rack(int rack, int sort, int n) {
         if (rack < 0 || rack > 2) return UNKNOWN;
         if (sort < 0 || sort > 2 || n > 8) return OUTSIDE;
         if (n < 0) return SIZE;
@@ -429,13 +465,15 @@ final class Model {
         return tool.v;
     }
 
-    int hang(int rack, int i, int sort, int v) {
+    @Override
+    public int hang(int rack, int i, int sort, int v) {
         if (rack < 0 || rack > 2) return UNKNOWN;
         if (sort < 1 || sort > 2 || v < 0 || v > 99) return OUTSIDE;
         return hang(stands[rack], i, new Tool(sort == 2, v));
     }
 
-    int take(int rack, int i) {
+    @Override
+    public int take(int rack, int i) {
         if (rack < 0 || rack > 2) return UNKNOWN;
         Stand stand = stands[rack];
         if (stand == null) return NULL;
@@ -446,21 +484,27 @@ final class Model {
         return tool.blade ? 100 + tool.v : tool.v;
     }
 
+    private static Stand likenessOf(Stand stand) {
+        Stand like = new Stand();
+        like.sort = stand.sort;
+        like.places = stand.places.clone();
+        return like;
+    }
+
     private static int things(Stand stand) {
         return stand == null ? 0 : (int) Arrays.stream(stand.places).filter(tool -> tool != null).count();
     }
 
-    int likeness(int rack, int other) {
+    @Override
+    public int likeness(int rack, int other) {
         if (rack < 0 || rack > 2 || other < 0 || other > 2) return UNKNOWN;
         if (stands[other] == null) return NULL;
-        Stand like = new Stand();
-        like.sort = stands[other].sort;
-        like.places = stands[other].places.clone();
-        stands[rack] = like;
-        return things(like);
+        stands[rack] = likenessOf(stands[other]);
+        return things(stands[rack]);
     }
 
-    int pass(int rack, int other) {
+    @Override
+    public int pass(int rack, int other) {
         if (rack < 0 || rack > 2 || other < 0 || other > 2) return UNKNOWN;
         if (stands[rack] == null || stands[other] == null) return NULL;
         int n = 0;
@@ -473,7 +517,8 @@ final class Model {
         return n;
     }
 
-    int drop(int rack) {
+    @Override
+    public int drop(int rack) {
         if (rack < 0 || rack > 2) return UNKNOWN;
         if (stands[rack] == null) return NULL;
         int n = things(stands[rack]);
@@ -481,7 +526,8 @@ final class Model {
         return n;
     }
 
-    int count(int what) {
+    @Override
+    public int count(int what) {
         if (what < 0 || what > 21) return OUTSIDE;
         if (what == 0) return sounds.size();
         if (what <= 4) return lanes.get(what - 1).pieces.size();

@@ -24,27 +24,27 @@ public final class PromisesTest {
         }
     }
 
-    private static void write(TapeHouse x, String text) {
+    private static void write(House x, String text) {
         for (int i = 0; i < text.length(); i++) {
             x.write(text.charAt(i));
         }
     }
 
-    private static void dueFault(TapeHouse x, String text, int want) {
+    private static void dueFault(House x, String text, int want) {
         x.erase();
         write(x, text);
         due("fault() of '" + text + "'", x.fault(), want);
         due("letters of '" + text + "' behind fault()", x.count(17), text.length());
     }
 
-    private static int house(TapeHouse x, String text) {
+    private static int house(House x, String text) {
         x.erase();
         write(x, text);
         return x.house();
     }
 
-    private static TapeHouse told(String text) {
-        TapeHouse x = new TapeHouse();
+    private static House told(String text) {
+        House x = new House();
         if (house(x, text) < 0) {
             wrong++;
             System.out.println("promise " + promise + ": '" + text + "' has a fault");
@@ -53,7 +53,7 @@ public final class PromisesTest {
     }
 
     // Every span as sound f m t gain in out, spans behind a bar each.
-    private static String spans(TapeHouse x, int track) {
+    private static String spans(House x, int track) {
         StringBuilder all = new StringBuilder();
         for (int i = 0; i < x.count(1 + track); i++) {
             all.append(i == 0 ? "" : "|");
@@ -64,7 +64,7 @@ public final class PromisesTest {
         return all.toString();
     }
 
-    private static void dueSpans(TapeHouse x, int track, String want) {
+    private static void dueSpans(House x, int track, String want) {
         looks++;
         String got = spans(x, track);
         if (!got.equals(want)) {
@@ -73,13 +73,13 @@ public final class PromisesTest {
         }
     }
 
-    private static float level(TapeHouse x, int moment) {
+    private static float level(House x, int moment) {
         return Float.intBitsToFloat((int) x.exact(moment));
     }
 
     // 12 spans of 2 moments with a gap of 1 behind each: 0 1, 3 4, .. 33 34.
-    private static TapeHouse twelve() {
-        TapeHouse x = told("tone 1 0 64");
+    private static House twelve() {
+        House x = told("tone 1 0 64");
         for (int i = 0; i < 12; i++) {
             due("put of twelve", x.put(0, 0, 0, 2, 3 * i), i + 1);
         }
@@ -87,7 +87,7 @@ public final class PromisesTest {
     }
 
     private static void aNewObject() {
-        TapeHouse x = new TapeHouse();
+        House x = new House();
         for (int what = 0; what <= 21; what++) {
             due("count(" + what + ")", x.count(what), what == 7 ? 128 : what >= 18 ? 100 : 0);
         }
@@ -103,7 +103,7 @@ public final class PromisesTest {
         }
         due("back(0)", x.back(0), NOT);
         due("back(1)", x.back(1), NOT);
-        TapeHouse y = new TapeHouse();
+        House y = new House();
         x.tone(1, 1, 1);
         x.shut(0);
         x.rack(0, 0, 1);
@@ -113,7 +113,7 @@ public final class PromisesTest {
     }
 
     private static void writes() {
-        TapeHouse x = new TapeHouse();
+        House x = new House();
         due("write(-1)", x.write(-1), OUTSIDE);
         due("write(256)", x.write(256), OUTSIDE);
         due("write(least)", x.write(LEAST), OUTSIDE);
@@ -132,7 +132,7 @@ public final class PromisesTest {
     }
 
     private static void erases() {
-        TapeHouse x = new TapeHouse();
+        House x = new House();
         due("erase()", x.erase(), 0);
         write(x, "tone 1 1 1");
         due("erase()", x.erase(), 10);
@@ -147,142 +147,146 @@ public final class PromisesTest {
     }
 
     private static void faultsOfForm() {
-        TapeHouse x = new TapeHouse();
-        dueFault(x, "", 0);
-        dueFault(x, "   ", 3);
-        dueFault(x, "house", -1);
-        dueFault(x, "  house  ", -1);
-        dueFault(x, "house;", 6);
-        dueFault(x, "house ; ", 8);
-        dueFault(x, ";house", 0);
-        dueFault(x, " ;", 1);
-        dueFault(x, "house;;house", 6);
-        dueFault(x, "house house", 6);
-        dueFault(x, "househouse", 0);
-        dueFault(x, "hous", 0);
-        dueFault(x, "houses", 0);
-        dueFault(x, "housez", 0);
-        dueFault(x, "ahouse", 0);
-        dueFault(x, "house{", 5);
-        dueFault(x, "house`", 5);
-        dueFault(x, "tone 1 1 1:", 10);
-        dueFault(x, "tone 1 1 1/", 10);
-        dueFault(x, "hou se", 0);
-        dueFault(x, "House", 0);
-        dueFault(x, "house.", 5);
-        dueFault(x, "house\t", 5);
-        dueFault(x, "house\n;house", 5);
-        dueFault(x, "house" + (char) 255, 5);
-        dueFault(x, (char) 0 + "house", 0);
-        dueFault(x, "1", 0);
-        dueFault(x, "house 1", 6);
-        dueFault(x, "reel 1", 0);
-        dueFault(x, "cut 1 1", 0);
-        dueFault(x, "tone", 4);
-        dueFault(x, "tone ", 5);
-        dueFault(x, "tone 1;", 6);
-        dueFault(x, "tone a 1 1", 5);
-        dueFault(x, "tone -1 1 1", 5);
-        dueFault(x, "tone 1,1 1", 6);
-        dueFault(x, "tone1 1 1", -1);
-        dueFault(x, "tone1 1 1;shut0;shift0-16;house", -1);
-        dueFault(x, "tone 1 1 1 1", 11);
-        dueFault(x, "tone 1 1 1house", 10);
-        dueFault(x, "tone 001 000 064", -1);
-        dueFault(x, "tone 0001 1 1", 5);
-        dueFault(x, "tone 1 1 0001", 9);
-        dueFault(x, "tone 1 1 99999999999999999999999", 9);
-        dueFault(x, "tone 11 1", 9);
+        dueFault(new House(), "", 0);
+        dueFault(new House(), "   ", 3);
+        dueFault(new House(), "house", -1);
+        dueFault(new House(), "  house  ", -1);
+        dueFault(new House(), "house;", 6);
+        dueFault(new House(), "house ; ", 8);
+        dueFault(new House(), ";house", 0);
+        dueFault(new House(), " ;", 1);
+        dueFault(new House(), "house;;house", 6);
+        dueFault(new House(), "house house", 6);
+        dueFault(new House(), "househouse", 0);
+        dueFault(new House(), "hous", 0);
+        dueFault(new House(), "houses", 0);
+        dueFault(new House(), "housez", 0);
+        dueFault(new House(), "ahouse", 0);
+        dueFault(new House(), "house{", 5);
+        dueFault(new House(), "house`", 5);
+        dueFault(new House(), "tone 1 1 1:", 10);
+        dueFault(new House(), "tone 1 1 1/", 10);
+        dueFault(new House(), "hou se", 0);
+        dueFault(new House(), "House", 0);
+        dueFault(new House(), "house.", 5);
+        dueFault(new House(), "house\t", 5);
+        dueFault(new House(), "house\n;house", 5);
+        dueFault(new House(), "house" + (char) 255, 5);
+        dueFault(new House(), (char) 0 + "house", 0);
+        dueFault(new House(), "1", 0);
+        dueFault(new House(), "house 1", 6);
+        dueFault(new House(), "reel 1", 0);
+        dueFault(new House(), "cut 1 1", 0);
+        dueFault(new House(), "tone", 4);
+        dueFault(new House(), "tone ", 5);
+        dueFault(new House(), "tone 1;", 6);
+        dueFault(new House(), "tone a 1 1", 5);
+        dueFault(new House(), "tone -1 1 1", 5);
+        dueFault(new House(), "tone 1,1 1", 6);
+        dueFault(new House(), "tone1 1 1", -1);
+        dueFault(new House(), "tone1 1 1;shut0;shift0-16;house", -1);
+        dueFault(new House(), "tone 1 1 1 1", 11);
+        dueFault(new House(), "tone 1 1 1house", 10);
+        dueFault(new House(), "tone 001 000 064", -1);
+        dueFault(new House(), "tone 0001 1 1", 5);
+        dueFault(new House(), "tone 1 1 0001", 9);
+        dueFault(new House(), "tone 1 1 99999999999999999999999", 9);
+        dueFault(new House(), "tone 11 1", 9);
         StringBuilder many = new StringBuilder("shut 0");
         for (int i = 1; i < 24; i++) {
             many.append(";shut 0");
         }
-        dueFault(x, many.toString(), -1);
-        dueFault(x, many + "  ", -1);
-        dueFault(x, many + ";", 167);
-        dueFault(x, many + " ; shut 0", 168);
-        dueFault(x, many + " shut 0", 168);
+        dueFault(new House(), many.toString(), -1);
+        dueFault(new House(), many + "  ", -1);
+        dueFault(new House(), many + ";", 167);
+        dueFault(new House(), many + " ; shut 0", 168);
+        dueFault(new House(), many + " shut 0", 168);
     }
 
     private static void faultsOfBounds() {
-        TapeHouse x = new TapeHouse();
-        dueFault(x, "tone 200 200 64", -1);
-        dueFault(x, "tone 201 1 1", 5);
-        dueFault(x, "tone 1 201 1", 7);
-        dueFault(x, "tone 1 1 65", 9);
-        dueFault(x, "tone 1 1 0", 9);
-        dueFault(x, "tone 0 0 1", -1);
-        dueFault(x, "put 0 0 0 1 0", 6);
-        dueFault(x, "tone 1 1 5;put 3 0 4 1 127", -1);
-        dueFault(x, "tone 1 1 5;put 4 0 4 1 127", 15);
-        dueFault(x, "tone 1 1 5;put 3 1 4 1 127", 17);
-        dueFault(x, "tone 1 1 5;put 3 0 5 1 127", 19);
-        dueFault(x, "tone 1 1 5;put 3 0 4 2 126", 21);
-        dueFault(x, "tone 1 1 5;put 3 0 4 0 127", 21);
-        dueFault(x, "tone 1 1 5;put 3 0 0 5 123", -1);
-        dueFault(x, "tone 1 1 5;put 3 0 0 5 124", 23);
-        dueFault(x, "tone 1 1 5;put 3 0 0 5", 22);
-        dueFault(x, "tone 1 1 64;put 0 0 0 64 64", -1);
-        dueFault(x, "tone 1 1 64;put 0 0 0 64 65", 25);
-        dueFault(x, "tone 1 1 5;house;put 0 0 0 1 0", 23);
-        dueFault(x, "tone 1 1 5;tone 1 1 9;put 0 1 8 1 0", -1);
-        dueFault(x, "tone 1 1 5;tone 1 1 9;put 0 0 8 1 0", 30);
-        dueFault(x, "put 0 0 0 1 0;tone 1 1 5", 6);
-        dueFault(x, "fade 3 11 64 64", -1);
-        dueFault(x, "fade 4 11 64 64", 5);
-        dueFault(x, "fade 3 12 64 64", 7);
-        dueFault(x, "fade 3 11 65 64", 10);
-        dueFault(x, "fade 3 11 64 65", 13);
-        dueFault(x, "gain 3 11 16", -1);
-        dueFault(x, "gain 4 11 16", 5);
-        dueFault(x, "gain 3 12 16", 7);
-        dueFault(x, "gain 3 11 17", 10);
-        dueFault(x, "gain 3 11 -1", 10);
-        dueFault(x, "shift 3 16", -1);
-        dueFault(x, "shift 3 17", 8);
-        dueFault(x, "shift 3 -16", -1);
-        dueFault(x, "shift 3-16", -1);
-        dueFault(x, "shift 3 - 17", 10);
-        dueFault(x, "shift 3 - 0", -1);
-        dueFault(x, "shift 3 --1", 9);
-        dueFault(x, "shift 3 -", 9);
-        dueFault(x, "shift 3 +1", 8);
-        dueFault(x, "shift -3 1", 6);
-        dueFault(x, "shift 4 1", 6);
-        dueFault(x, "shut 3", -1);
-        dueFault(x, "shut 4", 5);
-        dueFault(x, "shut", 4);
-        dueFault(x, "house;tone 1 1 1;tone 1 1 1;tone 1 1 1;tone 1 1 1;tone 1 1 1;tone 1 1 1", -1);
-        dueFault(x, "house;tone 1 1 1;tone 1 1 1;tone 1 1 1;tone 1 1 1;tone 1 1 1;tone 1 1 1;tone", 72);
-        due("count(0)", x.count(0), 0);
+        dueFault(new House(), "tone 200 200 64", -1);
+        dueFault(new House(), "tone 201 1 1", 5);
+        dueFault(new House(), "tone 1 201 1", 7);
+        dueFault(new House(), "tone 1 1 65", 9);
+        dueFault(new House(), "tone 1 1 0", 9);
+        dueFault(new House(), "tone 0 0 1", -1);
+        dueFault(new House(), "put 0 0 0 1 0", 6);
+        dueFault(new House(), "tone 1 1 5;put 3 0 4 1 127", -1);
+        dueFault(new House(), "tone 1 1 5;put 4 0 4 1 127", 15);
+        dueFault(new House(), "tone 1 1 5;put 3 1 4 1 127", 17);
+        dueFault(new House(), "tone 1 1 5;put 3 0 5 1 127", 19);
+        dueFault(new House(), "tone 1 1 5;put 3 0 4 2 126", 21);
+        dueFault(new House(), "tone 1 1 5;put 3 0 4 0 127", 21);
+        dueFault(new House(), "tone 1 1 5;put 3 0 0 5 123", -1);
+        dueFault(new House(), "tone 1 1 5;put 3 0 0 5 124", 23);
+        dueFault(new House(), "tone 1 1 5;put 3 0 0 5", 22);
+        dueFault(new House(), "tone 1 1 64;put 0 0 0 64 64", -1);
+        dueFault(new House(), "tone 1 1 64;put 0 0 0 64 65", 25);
+        dueFault(new House(), "tone 1 1 5;house;put 0 0 0 1 0", 23);
+        dueFault(new House(), "tone 1 1 5;tone 1 1 9;put 0 1 8 1 0", -1);
+        dueFault(new House(), "tone 1 1 5;tone 1 1 9;put 0 0 8 1 0", 30);
+        dueFault(new House(), "put 0 0 0 1 0;tone 1 1 5", 6);
+        dueFault(new House(), "fade 3 11 64 64", -1);
+        dueFault(new House(), "fade 4 11 64 64", 5);
+        dueFault(new House(), "fade 3 12 64 64", 7);
+        dueFault(new House(), "fade 3 11 65 64", 10);
+        dueFault(new House(), "fade 3 11 64 65", 13);
+        dueFault(new House(), "gain 3 11 16", -1);
+        dueFault(new House(), "gain 4 11 16", 5);
+        dueFault(new House(), "gain 3 12 16", 7);
+        dueFault(new House(), "gain 3 11 17", 10);
+        dueFault(new House(), "gain 3 11 -1", 10);
+        dueFault(new House(), "shift 3 16", -1);
+        dueFault(new House(), "shift 3 17", 8);
+        dueFault(new House(), "shift 3 -16", -1);
+        dueFault(new House(), "shift 3-16", -1);
+        dueFault(new House(), "shift 3 - 17", 10);
+        dueFault(new House(), "shift 3 - 0", -1);
+        dueFault(new House(), "shift 3 --1", 9);
+        dueFault(new House(), "shift 3 -", 9);
+        dueFault(new House(), "shift 3 +1", 8);
+        dueFault(new House(), "shift -3 1", 6);
+        dueFault(new House(), "shift 4 1", 6);
+        dueFault(new House(), "shut 3", -1);
+        dueFault(new House(), "shut 4", 5);
+        dueFault(new House(), "shut", 4);
+        dueFault(new House(), "house;tone 1 1 1;tone 1 1 1;tone 1 1 1;tone 1 1 1;tone 1 1 1;tone 1 1 1", -1);
+        dueFault(new House(), "house;tone 1 1 1;tone 1 1 1;tone 1 1 1;tone 1 1 1;tone 1 1 1;tone 1 1 1;tone", 72);
     }
 
     private static void faultsWithWhatThereIs() {
-        TapeHouse x = told("tone 1 1 5;tone 1 1 7;tone 1 1 9;tone 1 1 1");
-        dueFault(x, "put 0 1 6 1 0", -1);
-        dueFault(x, "put 0 1 7 1 0", 8);
-        dueFault(x, "put 0 4 0 1 0", 6);
-        dueFault(x, "tone 1 1 3;put 0 4 2 1 0", -1);
-        dueFault(x, "tone 1 1 1;tone 1 1 1", -1);
-        dueFault(x, "tone 1 1 1;tone 1 1 1;tone 1 1 1", 22);
-        dueFault(x, "tone 1 1 1;tone 1 1 1;house;tone 1 1 1", -1);
+        String four = "tone 1 1 5;tone 1 1 7;tone 1 1 9;tone 1 1 1";
+        dueFault(told(four), "put 0 1 6 1 0", -1);
+        dueFault(told(four), "put 0 1 7 1 0", 8);
+        dueFault(told(four), "put 0 4 0 1 0", 6);
+        dueFault(told(four), "tone 1 1 3;put 0 4 2 1 0", -1);
+        dueFault(told(four), "tone 1 1 1;tone 1 1 1", -1);
+        dueFault(told(four), "tone 1 1 1;tone 1 1 1;tone 1 1 1", 22);
+        dueFault(told(four), "tone 1 1 1;tone 1 1 1;house;tone 1 1 1", -1);
+        House x = told(four);
         dueFault(x, "house;put 0 0 0 1 0", 12);
         due("count(0)", x.count(0), 4);
-        TapeHouse y = new TapeHouse();
         for (int s = 0; s < 6; s++) {
-            due("a sound not by text", s % 2 == 0 ? y.tone(1, 1, 10 * s + 1) : y.bounce(0, 10 * s + 1), s);
+            House y = new House();
+            for (int i = 0; i <= s; i++) {
+                due("a sound not by text", i % 2 == 0 ? y.tone(1, 1, 10 * i + 1) : y.bounce(0, 10 * i + 1), i);
+            }
             dueFault(y, "put 0 " + s + " " + 10 * s + " 1 0", -1);
             dueFault(y, "put 0 " + s + " 0 " + (10 * s + 1) + " 0", -1);
             dueFault(y, "put 0 " + s + " " + (10 * s + 1) + " 1 0", 8);
             dueFault(y, "put 0 " + s + " 0 " + (10 * s + 2) + " 0", 10);
             dueFault(y, "put 0 " + (s + 1) + " 0 1 0", 6);
         }
-        dueFault(y, "tone 1 1 1", 0);
-        dueFault(y, "shut 0;put 0 5 50 1 0;tone 1 1 1", 22);
+        x = new House();
+        for (int i = 0; i < 6; i++) {
+            x.tone(1, 1, 51);
+        }
+        dueFault(x, "tone 1 1 1", 0);
+        dueFault(x, "shut 0;put 0 5 50 1 0;tone 1 1 1", 22);
     }
 
     private static void houses() {
-        TapeHouse x = new TapeHouse();
+        House x = new House();
         due("house() of nothing", x.house(), NOT);
         due("house()", house(x, "tone 7 3 40;put 1 0 2 10 20;fade 1 0 4 3;gain 1 0 12;shift 1 - 5;shut 1"), 6);
         due("count(17)", x.count(17), 0);
@@ -311,7 +315,7 @@ public final class PromisesTest {
     }
 
     private static void housesThatDoNothing() {
-        TapeHouse x = told("tone 1 1 9;put 0 0 0 9 0;fade 0 0 4 5");
+        House x = told("tone 1 1 9;put 0 0 0 9 0;fade 0 0 4 5");
         due("no span 1", house(x, "fade 0 1 1 1;gain 0 1 3;fade 1 0 0 0;gain 3 11 0"), 4);
         dueSpans(x, 0, "0 0 9 0 8 4 5");
         due("too much", house(x, "fade 0 0 5 5;fade 0 0 64 0;fade 0 0 0 10"), 3);
@@ -328,7 +332,7 @@ public final class PromisesTest {
     }
 
     private static void housesForget() {
-        TapeHouse x = told("tone 1 1 9;put 0 0 0 9 0");
+        House x = told("tone 1 1 9;put 0 0 0 9 0");
         due("count(13)", x.count(13), 0);
         x.shift(0, 3);
         x.gain(0, 0, 1);
@@ -355,7 +359,7 @@ public final class PromisesTest {
     }
 
     private static void sounds() {
-        TapeHouse x = told("tone 50 3 6;put 0 0 0 6 0;put 1 0 2 2 9;put 1 0 3 3 20;put 2 0 3 1 127;shut 2");
+        House x = told("tone 50 3 6;put 0 0 0 6 0;put 1 0 2 2 9;put 1 0 3 3 20;put 2 0 3 1 127;shut 2");
         due("what 0", x.sound(0, 0, 0), 6);
         due("what 0, i far off", x.sound(0, 0, MOST), 6);
         int[] floats = {-97, -47, 3, 53, -98, -48};
@@ -386,7 +390,7 @@ public final class PromisesTest {
     }
 
     private static void bouncedSoundIsCut() {
-        TapeHouse x = told("tone 0 87 1;put 0 0 0 1 5;gain 0 0 1");
+        House x = told("tone 0 87 1;put 0 0 0 1 5;gain 0 0 1");
         due("fade", x.fade(0, 0, 1, 0), 0);
         due("bounce", x.bounce(5, 1), 1);
         due("-13 / 8 / 2 times 16", x.sound(1, 1, 0), -13);
@@ -403,7 +407,7 @@ public final class PromisesTest {
     }
 
     private static void spansTold() {
-        TapeHouse x = told("tone 1 0 9;tone 1 0 20;put 2 1 3 9 40;gain 2 0 5;fade 2 0 2 6;put 2 0 1 2 7");
+        House x = told("tone 1 0 9;tone 1 0 20;put 2 1 3 9 40;gain 2 0 5;fade 2 0 2 6;put 2 0 1 2 7");
         int[] first = {0, 1, 2, 7, 8, 0, 0};
         int[] second = {1, 3, 9, 40, 5, 2, 6};
         for (int what = 0; what < 7; what++) {
@@ -421,7 +425,7 @@ public final class PromisesTest {
     }
 
     private static void tones() {
-        TapeHouse x = new TapeHouse();
+        House x = new House();
         due("tone(-1, 0, 1)", x.tone(-1, 0, 1), OUTSIDE);
         due("tone(201, 0, 1)", x.tone(201, 0, 1), OUTSIDE);
         due("tone(0, -1, 1)", x.tone(0, -1, 1), OUTSIDE);
@@ -447,7 +451,7 @@ public final class PromisesTest {
     }
 
     private static void puts() {
-        TapeHouse x = told("tone 1 0 40;tone 1 0 64;put 0 0 0 40 10;fade 0 0 30 10;gain 0 0 3");
+        House x = told("tone 1 0 40;tone 1 0 64;put 0 0 0 40 10;fade 0 0 30 10;gain 0 0 3");
         due("in the midst", x.put(0, 1, 20, 5, 20), 3);
         dueSpans(x, 0, "0 0 10 10 3 10 0|1 20 5 20 8 0 0|0 15 25 25 3 0 10");
         due("over an end and a beginning", x.put(0, 1, 0, 10, 17), 3);
@@ -469,7 +473,7 @@ public final class PromisesTest {
     }
 
     private static void putsRefused() {
-        TapeHouse x = told("tone 1 0 40;tone 1 0 64");
+        House x = told("tone 1 0 40;tone 1 0 64");
         due("track 4", x.put(4, 0, 0, 1, 0), UNKNOWN);
         due("track -1", x.put(-1, 0, -1, 1, 0), UNKNOWN);
         due("sound 2", x.put(0, 2, 0, 1, 0), UNKNOWN);
@@ -511,14 +515,14 @@ public final class PromisesTest {
         due("count(2)", x.count(2), 12);
     }
 
-    private static void dueSpanNumbers(TapeHouse x, int span, int f, int m, int t) {
+    private static void dueSpanNumbers(House x, int span, int f, int m, int t) {
         due("f", x.span(0, span, 1), f);
         due("m", x.span(0, span, 2), m);
         due("t", x.span(0, span, 3), t);
     }
 
     private static void fades() {
-        TapeHouse x = told("tone 1 0 40;put 1 0 0 40 10;put 1 0 0 9 60");
+        House x = told("tone 1 0 40;put 1 0 0 40 10;put 1 0 0 9 60");
         due("fade(1, 1, 4, 5)", x.fade(1, 1, 4, 5), 0);
         due("fade(1, 1, 9, 0)", x.fade(1, 1, 9, 0), 4);
         due("fade(1, 1, 0, 9)", x.fade(1, 1, 0, 9), 9);
@@ -539,7 +543,7 @@ public final class PromisesTest {
     }
 
     private static void gains() {
-        TapeHouse x = told("tone 1 0 40;put 3 0 0 40 10;put 3 0 0 9 60;fade 3 1 2 3");
+        House x = told("tone 1 0 40;put 3 0 0 40 10;put 3 0 0 9 60;fade 3 1 2 3");
         due("gain(3, 1, 16)", x.gain(3, 1, 16), 8);
         due("gain(3, 1, 0)", x.gain(3, 1, 0), 16);
         due("gain(3, 1, 17)", x.gain(3, 1, 17), OUTSIDE);
@@ -553,7 +557,7 @@ public final class PromisesTest {
     }
 
     private static void wipes() {
-        TapeHouse x = told("tone 1 0 40;put 0 0 0 40 10;fade 0 0 30 10;gain 0 0 3;put 0 0 0 5 60");
+        House x = told("tone 1 0 40;put 0 0 0 40 10;fade 0 0 30 10;gain 0 0 3;put 0 0 0 5 60");
         due("from one to itself", x.wipe(0, 20, 20), 2);
         dueSpans(x, 0, "0 0 40 10 3 30 10|0 0 5 60 8 0 0");
         due("in the midst", x.wipe(0, 20, 21), 3);
@@ -587,7 +591,7 @@ public final class PromisesTest {
     }
 
     private static void cuts() {
-        TapeHouse x = told("tone 1 0 40;put 2 0 3 20 10;fade 2 0 12 8;gain 2 0 3;put 2 0 0 5 30");
+        House x = told("tone 1 0 40;put 2 0 3 20 10;fade 2 0 12 8;gain 2 0 3;put 2 0 0 5 30");
         due("cut(2, 10)", x.cut(2, 10), NOT);
         due("cut(2, 30)", x.cut(2, 30), NOT);
         due("cut(2, 35)", x.cut(2, 35), NOT);
@@ -616,7 +620,7 @@ public final class PromisesTest {
     }
 
     private static void moves() {
-        TapeHouse x = told("tone 1 0 40;put 1 0 3 20 10;fade 1 0 12 8;gain 1 0 3;put 1 0 0 5 30");
+        House x = told("tone 1 0 40;put 1 0 3 20 10;fade 1 0 12 8;gain 1 0 3;put 1 0 0 5 30");
         due("over a part of its own place", x.move(1, 0, 8), 2);
         dueSpans(x, 1, "0 3 20 8 3 12 8|0 0 5 30 8 0 0");
         due("to its own place", x.move(1, 0, 8), 2);
@@ -654,7 +658,7 @@ public final class PromisesTest {
     }
 
     private static void shifts() {
-        TapeHouse x = told("tone 0 150 40;put 1 0 0 10 0;put 2 0 0 1 127");
+        House x = told("tone 0 150 40;put 1 0 0 10 0;put 2 0 0 1 127");
         due("shift(1, 16)", x.shift(1, 16), 0);
         due("count(19)", x.count(19), 116);
         due("heard(15)", x.heard(15), 0);
@@ -682,7 +686,7 @@ public final class PromisesTest {
     }
 
     private static void shuts() {
-        TapeHouse x = told("tone 0 150 40;put 0 0 0 1 0;put 3 0 0 1 0");
+        House x = told("tone 0 150 40;put 0 0 0 1 0;put 3 0 0 1 0");
         due("heard(0)", x.heard(0), 1600);
         due("shut(3)", x.shut(3), 1);
         due("heard(0)", x.heard(0), 800);
@@ -702,7 +706,7 @@ public final class PromisesTest {
     }
 
     private static void bounces() {
-        TapeHouse x = told("tone 7 3 40;tone 33 9 40;put 0 0 0 40 10;fade 0 0 6 9;gain 0 0 5;put 1 1 3 30 0;shift 1 7");
+        House x = told("tone 7 3 40;tone 33 9 40;put 0 0 0 40 10;fade 0 0 6 9;gain 0 0 5;put 1 1 3 30 0;shift 1 7");
         int[] bits = new int[64];
         for (int i = 0; i < 64; i++) {
             bits[i] = (int) x.exact(5 + i);
@@ -734,7 +738,7 @@ public final class PromisesTest {
     }
 
     private static void undoes() {
-        TapeHouse x = told("tone 1 0 40;tone 1 0 40");
+        House x = told("tone 1 0 40;tone 1 0 40");
         due("undo(0)", x.undo(0), NOT);
         x.put(0, 0, 0, 40, 10);
         String[] was = new String[8];
@@ -773,7 +777,7 @@ public final class PromisesTest {
     }
 
     private static void undoesOfEach() {
-        TapeHouse x = told("tone 1 0 40;put 0 0 0 40 10");
+        House x = told("tone 1 0 40;put 0 0 0 40 10");
         String first = spans(x, 0);
         x.fade(0, 0, 3, 4);
         due("of fade", x.undo(0), 0);
@@ -817,7 +821,7 @@ public final class PromisesTest {
     }
 
     private static void keeps() {
-        TapeHouse x = told("tone 1 0 40;put 0 0 0 40 10;put 0 0 0 5 60;put 3 0 0 1 0");
+        House x = told("tone 1 0 40;put 0 0 0 40 10;put 0 0 0 5 60;put 3 0 0 1 0");
         due("keep(2)", x.keep(2), OUTSIDE);
         due("keep(-1)", x.keep(-1), OUTSIDE);
         due("keep(least)", x.keep(LEAST), OUTSIDE);
@@ -840,7 +844,7 @@ public final class PromisesTest {
     }
 
     private static void backs() {
-        TapeHouse x = told("tone 1 0 40;put 0 0 0 40 10;put 0 0 0 5 60;put 3 0 0 1 0");
+        House x = told("tone 1 0 40;put 0 0 0 40 10;put 0 0 0 5 60;put 3 0 0 1 0");
         due("back(0)", x.back(0), NOT);
         due("back(2)", x.back(2), OUTSIDE);
         due("back(-1)", x.back(-1), OUTSIDE);
@@ -884,7 +888,7 @@ public final class PromisesTest {
     }
 
     private static void heards() {
-        TapeHouse x = told("tone 7 3 40;tone 33 9 40;put 0 0 0 10 10;fade 0 0 4 3;gain 0 0 16;put 1 1 3 30 12;put 2 0 0 1 127");
+        House x = told("tone 7 3 40;tone 33 9 40;put 0 0 0 10 10;fade 0 0 4 3;gain 0 0 16;put 1 1 3 30 12;put 2 0 0 1 127");
         due("heard(9)", x.heard(9), 0);
         float in = 2f * -97f * (1f / 5f);
         due("heard(10)", x.heard(10), (int) (in * 16f));
@@ -904,7 +908,7 @@ public final class PromisesTest {
     }
 
     private static void heardInTheirOrder() {
-        TapeHouse x = told("tone 0 3 9;tone 0 199 9;put 0 0 0 9 0;put 1 1 0 9 0;put 2 0 0 9 0;fade 0 0 2 6;fade 1 0 6 2;gain 0 0 7;gain 1 0 5;gain 2 0 3;fade 2 0 4 5");
+        House x = told("tone 0 3 9;tone 0 199 9;put 0 0 0 9 0;put 1 1 0 9 0;put 2 0 0 9 0;fade 0 0 2 6;fade 1 0 6 2;gain 0 0 7;gain 1 0 5;gain 2 0 3;fade 2 0 4 5");
         for (int i = 0; i < 9; i++) {
             float first = -97f * (7f / 8f);
             first = i < 2 ? first * ((float) (i + 1) / 3f) : first;
@@ -928,7 +932,7 @@ public final class PromisesTest {
     }
 
     private static void smallAndGreatBits() {
-        TapeHouse x = told("tone 0 200 64;put 0 0 0 64 0;put 1 0 0 64 0;put 2 0 0 64 0;put 3 0 0 64 0");
+        House x = told("tone 0 200 64;put 0 0 0 64 0;put 1 0 0 64 0;put 2 0 0 64 0;put 3 0 0 64 0");
         for (int sound = 1; sound < 6; sound++) {
             for (int t = 0; t < 4; t++) {
                 x.gain(t, 0, 16);
@@ -955,7 +959,7 @@ public final class PromisesTest {
     }
 
     private static void sums() {
-        TapeHouse x = told("tone 7 3 40;tone 33 9 40;put 0 0 0 40 10;fade 0 0 6 9;gain 0 0 5;put 1 1 3 30 0;fade 1 0 10 20;shift 1 7");
+        House x = told("tone 7 3 40;tone 33 9 40;put 0 0 0 40 10;fade 0 0 6 9;gain 0 0 5;put 1 1 3 30 0;fade 1 0 10 20;shift 1 7");
         int[][] pairs = {{0, 127}, {0, 0}, {127, 127}, {10, 10}, {10, 49}, {12, 13}, {30, 31}};
         for (int[] pair : pairs) {
             double all = 0;
@@ -976,7 +980,7 @@ public final class PromisesTest {
     }
 
     private static void playeds() {
-        TapeHouse x = told("tone 7 3 40;put 1 0 5 10 20;gain 1 0 5;fade 1 0 3 4;shift 1 9;shut 1");
+        House x = told("tone 7 3 40;put 1 0 5 10 20;gain 1 0 5;fade 1 0 3 4;shift 1 9;shut 1");
         due("played(1, 19)", x.played(1, 19), 0);
         due("played(1, 20)", x.played(1, 20), (int) (-62f * (5f / 8f) * (1f / 4f) * 16f));
         due("played(1, 22)", x.played(1, 22), (int) (-48f * (5f / 8f) * (3f / 4f) * 16f));
@@ -993,7 +997,7 @@ public final class PromisesTest {
     }
 
     private static void coverings() {
-        TapeHouse x = told("tone 7 3 40;put 1 0 0 10 20;put 1 0 0 5 30;put 1 0 0 1 127;shift 1 9;shut 1");
+        House x = told("tone 7 3 40;put 1 0 0 10 20;put 1 0 0 5 30;put 1 0 0 1 127;shift 1 9;shut 1");
         String was = spans(x, 1);
         due("covers(1, 64, 0)", x.covers(1, 64, 0), 15);
         due("covers(1, 64, 64)", x.covers(1, 64, 64), 1);
@@ -1018,7 +1022,7 @@ public final class PromisesTest {
     }
 
     private static void racks() {
-        TapeHouse x = new TapeHouse();
+        House x = new House();
         due("rack(3, 3, 9)", x.rack(3, 3, 9), UNKNOWN);
         due("rack(-1, 0, 1)", x.rack(-1, 0, 1), UNKNOWN);
         due("rack(0, 3, -1)", x.rack(0, 3, -1), OUTSIDE);
@@ -1040,7 +1044,7 @@ public final class PromisesTest {
     }
 
     private static void hangs() {
-        TapeHouse x = new TapeHouse();
+        House x = new House();
         due("hang(3, 0, 0, 0)", x.hang(3, 0, 0, 0), UNKNOWN);
         due("hang(-1, 0, 1, 0)", x.hang(-1, 0, 1, 0), UNKNOWN);
         due("hang(0, 0, 0, 0)", x.hang(0, 0, 0, 0), OUTSIDE);
@@ -1068,7 +1072,7 @@ public final class PromisesTest {
     }
 
     private static void takes() {
-        TapeHouse x = new TapeHouse();
+        House x = new House();
         due("take(3, 0)", x.take(3, 0), UNKNOWN);
         due("take(-1, 0)", x.take(-1, 0), UNKNOWN);
         due("take(0, 9)", x.take(0, 9), NULL);
@@ -1088,7 +1092,7 @@ public final class PromisesTest {
     }
 
     private static void likenesses() {
-        TapeHouse x = new TapeHouse();
+        House x = new House();
         due("likeness(0, 3)", x.likeness(0, 3), UNKNOWN);
         due("likeness(3, 0)", x.likeness(3, 0), UNKNOWN);
         due("likeness(-1, 0)", x.likeness(-1, 0), UNKNOWN);
@@ -1126,7 +1130,7 @@ public final class PromisesTest {
     }
 
     private static void passes() {
-        TapeHouse x = new TapeHouse();
+        House x = new House();
         due("pass(3, 0)", x.pass(3, 0), UNKNOWN);
         due("pass(0, 3)", x.pass(0, 3), UNKNOWN);
         due("pass(-1, 0)", x.pass(-1, 0), UNKNOWN);
@@ -1164,7 +1168,7 @@ public final class PromisesTest {
     }
 
     private static void drops() {
-        TapeHouse x = new TapeHouse();
+        House x = new House();
         due("drop(3)", x.drop(3), UNKNOWN);
         due("drop(-1)", x.drop(-1), UNKNOWN);
         due("drop(0)", x.drop(0), NULL);
@@ -1184,7 +1188,7 @@ public final class PromisesTest {
     }
 
     private static void counts() {
-        TapeHouse x = told("tone 0 150 9;tone 0 50 9;put 0 0 0 9 9;put 0 0 0 9 18;put 0 0 0 9 40;put 1 0 0 9 0;put 1 0 0 1 127;put 2 1 0 5 9;shift 3 16;shift 2 - 16;shut 1;shut 3");
+        House x = told("tone 0 150 9;tone 0 50 9;put 0 0 0 9 9;put 0 0 0 9 18;put 0 0 0 9 40;put 1 0 0 9 0;put 1 0 0 1 127;put 2 1 0 5 9;shift 3 16;shift 2 - 16;shut 1;shut 3");
         x.shift(0, 0);
         x.shift(0, 0);
         x.shift(3, 0);

@@ -25,8 +25,8 @@ public final class RulesTest {
         "NULL=-2000000011", "SIZE=-2000000012", "INDEX=-2000000013", "STORE=-2000000014", "EMPTY=-2000000015",
     };
     private static final String[] BANNED = {
-        "import ", "package ", "->", "::", "catch", "try ", "finally", "synchronized", "assert ", "System.", "Float.",
-        "Double.", "Exact(", "native ", "throw ", "var ", "protected ", "hashCode", "equals(", "toString",
+        "package ", "->", "::", "finally", "synchronized", "assert ", "System.out", "System.nano", "System.current", "Float.",
+        "Double.", "Exact(", "native ", "var ", "protected ", "hashCode", "Random", "NullPointer", "ArrayIndex", "ClassCast",
     };
     private static final int MOST_LINES = 60;
     private static final int MOST_CLASSES = 12;

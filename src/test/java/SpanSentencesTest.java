@@ -31,6 +31,14 @@ public final class SpanSentencesTest extends Checks {
         return x;
     }
 
+    // The same, and nothing can be undone: a refused call that would count as done shows itself.
+    private static House twelveKept() {
+        House x = twelve();
+        x.keep(0);
+        x.back(0);
+        return x;
+    }
+
     private static void aNewHouse() {
         sentence("No sounds, four empty tracks.");
         House x = new House();
@@ -236,6 +244,8 @@ public final class SpanSentencesTest extends Checks {
 
     private static void thirteenth() {
         Supplier<House> twelve = SpanSentencesTest::twelve;
+        refused(SpanSentencesTest::twelveKept, NOT, "put", 0, 0, 0, 1, 127);
+        refused(SpanSentencesTest::twelveKept, NOT, "put", 0, 0, 0, 1, 1);
         refused(twelve, NOT, "put", 0, 0, 0, 1, 127);
         refused(twelve, NOT, "put", 0, 0, 0, 64, 64);
         refused(twelve, NOT, "put", 0, 0, 0, 1, 3);
@@ -349,6 +359,7 @@ public final class SpanSentencesTest extends Checks {
         due(x.wipe(1, 0, 128), 0);
         due(x.wipe(1, 0, 128), 0);
         refused(SpanSentencesTest::twelve, NOT, "wipe", 0, 1, 2);
+        refused(SpanSentencesTest::twelveKept, NOT, "wipe", 0, 1, 2);
         refused(SpanSentencesTest::twelve, NOT, "wipe", 0, 45, 46);
         refused(SpanSentencesTest::twelve, OUTSIDE, "wipe", 0, 2, 1);
         x = twelve();
@@ -389,6 +400,8 @@ public final class SpanSentencesTest extends Checks {
         refused(SpanSentencesTest::busy, NOT, "cut", 2, 127);
         refused(SpanSentencesTest::busy, NOT, "cut", 3, 64);
         refused(SpanSentencesTest::twelve, NOT, "cut", 0, 1);
+        refused(SpanSentencesTest::twelveKept, NOT, "cut", 0, 1);
+        refused(SpanSentencesTest::twelveKept, NOT, "cut", 0, 3);
         refused(SpanSentencesTest::twelve, NOT, "cut", 0, 3);
         refused(SpanSentencesTest::twelve, NOT, "cut", 0, 46);
         House x = told("tone 1 0 64;put 0 0 0 64 0;put 0 0 0 64 64");
@@ -432,6 +445,19 @@ public final class SpanSentencesTest extends Checks {
         due(x.move(0, 1, 10), 3);
         dueSpans(x, 0, "0 0 9 1 3 9 0|1 20 5 10 8 0 0|0 14 26 15 3 0 10");
         refused(SpanSentencesTest::full, NOT, "move", 1, 11, 5);
+        Supplier<House> cutToTwelve = () -> {
+            House y = told("tone 1 0 64;put 0 0 0 64 0");
+            for (int i = 1; i < 12; i++) y.cut(0, i);
+            y.keep(0);
+            y.back(0);
+            return y;
+        };
+        refused(cutToTwelve, NOT, "move", 0, 0, 40);
+        refused(cutToTwelve, NOT, "move", 0, 10, 62);
+        refused(cutToTwelve, OUTSIDE, "move", 0, 0, 128);
+        House z = cutToTwelve.get();
+        due(z.move(0, 0, 11), 12);
+        due(z.move(0, 0, 63), 12);
         // The one that goes leaves its place, so 12 may be 12 again.
         x = twelve();
         due(x.move(0, 0, 125), 12);
@@ -455,6 +481,27 @@ public final class SpanSentencesTest extends Checks {
             was = n;
         }
         due(x.count(18) + x.count(19) + x.count(21), 300);
+        // What is done with spans leaves it.
+        for (int n : new int[] {-16, 5, 16}) {
+            x = told("tone 1 0 64");
+            x.shift(2, n);
+            x.put(2, 0, 0, 64, 0);
+            due(x.count(20), 100 + n);
+            x.cut(2, 9);
+            due(x.count(20), 100 + n);
+            x.wipe(2, 30, 40);
+            due(x.count(20), 100 + n);
+            x.move(2, 0, 99);
+            due(x.count(20), 100 + n);
+            x.gain(2, 0, 1);
+            due(x.count(20), 100 + n);
+            x.fade(2, 0, 1, 1);
+            due(x.count(20), 100 + n);
+            for (int i = 0; i < 4; i++) x.undo(2);
+            due(x.count(20), 100 + n);
+            x.put(2, 0, 0, 1, 127);
+            due(x.count(20), 100 + n);
+        }
     }
 
     private static void shut() {
@@ -498,6 +545,9 @@ public final class SpanSentencesTest extends Checks {
             due(x.undo(1), NOT);
         }
         for (int made = 0; made <= 9; made++) lastFour(made);
+        for (int undone = 1; undone <= 4; undone++) {
+            for (int more = 1; more <= 6; more++) undoneAndMore(undone, more);
+        }
         undoneByThemselves();
     }
 
@@ -517,6 +567,39 @@ public final class SpanSentencesTest extends Checks {
             due(x.undo(k), NOT);
             due(x.count(13 + k), 0);
         }
+    }
+
+    // Behind some that were undone more are done: the latest of both can be undone, those that were undone cannot.
+    private static void undoneAndMore(int undone, int more) {
+        House x = one();
+        int[] gains = new int[16];
+        gains[0] = 11;
+        int made = 0;
+        int can = 0;
+        for (int i = 1; i <= 5; i++) {
+            gains[++made] = i;
+            x.gain(1, 0, i);
+            can = Math.min(4, can + 1);
+        }
+        for (int i = 0; i < undone; i++) {
+            made--;
+            can--;
+            due(x.undo(1), can);
+            due(x.span(1, 0, 4), gains[made]);
+        }
+        for (int i = 1; i <= more; i++) {
+            due(x.gain(1, 0, 10 + i), gains[made]);
+            gains[++made] = 10 + i;
+            can = Math.min(4, can + 1);
+            due(x.count(14), can);
+        }
+        while (can > 0) {
+            made--;
+            can--;
+            due(x.undo(1), can);
+            dueSpans(x, 1, "0 5 10 20 " + gains[made] + " 4 3");
+        }
+        due(x.undo(1), NOT);
     }
 
     private static void undoneByThemselves() {

@@ -14,6 +14,12 @@ public final class TextSentencesTest extends Checks {
         return x;
     }
 
+    private static House six() {
+        House x = new House();
+        for (int s = 0; s < 6; s++) x.tone(1, s, 64 - 7 * s);
+        return x;
+    }
+
     private static String repeated(String words, int times, String between) {
         StringBuilder all = new StringBuilder();
         for (int i = 0; i < times; i++) all.append(i == 0 ? "" : between).append(words);
@@ -238,6 +244,15 @@ public final class TextSentencesTest extends Checks {
         dueFault(forty(), "house;put 0 0 0 1 0", 12);
         dueFault(forty(), "put 0 1 0 1 0;tone 1 1 1", 6);
         dueFault("tone 1 1 5;tone 1 1 9;tone 1 1 1;put 0 1 8 1 0;put 0 0 5 1 0", 55);
+        for (int s = 0; s < 6; s++) {
+            int length = 64 - 7 * s;
+            dueFault(six(), "put 0 " + s + " " + (length - 1) + " 1 127", NONE);
+            dueFault(six(), "put 0 " + s + " " + length + " 1 127", 8);
+            dueFault(six(), "put 0 " + s + " 0 " + length + " " + (128 - length), NONE);
+            dueFault(six(), "put 0 " + s + " 0 " + (length + 1) + " 0", 10);
+            dueFault(six(), "put 0 " + s + " 0 " + length + " " + (129 - length), 13);
+        }
+        dueFault(six(), "put 0 6 0 1 0", 6);
         House x = told("tone 1 0 64;put 3 0 63 1 127;put 3 0 0 63 64;put 3 0 5 1 0");
         dueSpans(x, 3, "0 5 1 0 8 0 0|0 0 63 64 8 0 0|0 63 1 127 8 0 0");
     }

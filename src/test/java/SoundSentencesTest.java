@@ -265,6 +265,39 @@ public final class SoundSentencesTest extends Checks {
         x = told("tone 0 101 1;tone 0 99 1;put 0 0 0 1 5;put 0 1 0 1 6");
         due(x.exact(5), 0x3f800000L);
         due(x.exact(6), (long) 0xbf800000);
+        for (int level : new int[] {1, -1, 77, -100}) {
+            ofFive(level, 16, 0);
+            ofFive(level, 1, 64);
+            ofFive(level, 3, 7);
+        }
+    }
+
+    // A sound, and one of it, and so on, as loud as can be or as soft: far above 100, far below 1, the bits are a float's.
+    private static void ofFive(int level, int gain, int in) {
+        House x = told("tone 0 " + (100 + level) + " 64");
+        float heard = level;
+        for (int s = 0; s < 6; s++) {
+            due(x.sound(s, 2, 0), bits(heard));
+            heard = heard * ((float) gain / 8f);
+            if (in > 0) heard = heard * (1f / (float) (in + 1));
+            float all = 0f;
+            for (int k = 0; k < 4; k++) {
+                x.put(k, s, 0, 64, 0);
+                x.gain(k, 0, gain);
+                x.fade(k, 0, in, 0);
+                if (in == 0) all = all + heard;
+                else if (k > 0) x.shut(k);
+            }
+            heard = in == 0 ? all : heard;
+            due(x.exact(0), bits(heard));
+            due(x.heard(0), (int) (heard * 16f));
+            due(x.sum(0, 0), Double.doubleToLongBits(heard));
+            double sum = 0;
+            for (int moment = 0; moment < 9; moment++) sum += Float.intBitsToFloat((int) x.exact(moment));
+            due(x.sum(0, 8), Double.doubleToLongBits(sum));
+            due(x.bounce(0, 64), s == 5 ? FULL : s + 1);
+            for (int k = 1; k < 4 && in > 0; k++) x.shut(k);
+        }
     }
 
     private static void sums() {
@@ -364,6 +397,15 @@ public final class SoundSentencesTest extends Checks {
         due(x.shut(1), 1);
         due(x.count(7), 128);
         due(x.count(6), 0);
+        // What is shifted off to a moment beside 0 .. 127 is no loudest one.
+        for (int n = 1; n <= 16; n++) {
+            x = told("tone 0 200 1;tone 0 150 1;put 0 0 0 1 " + (n - 1) + ";put 1 1 0 1 40;shift 0 - " + n);
+            due(x.count(6), 40);
+            due(x.count(7), 127);
+            x = told("tone 0 200 1;tone 0 150 1;put 0 0 0 1 " + (128 - n) + ";put 1 1 0 1 40;shift 0 " + n);
+            due(x.count(6), 40);
+            due(x.count(7), 127);
+        }
         // What ends each other is silent, so is what has no GAIN, or what is shifted off.
         x = told("tone 0 0 64;tone 0 200 64;put 0 0 0 64 0;put 1 1 0 64 0");
         due(x.count(7), 128);

@@ -496,6 +496,71 @@ public final class TextSentencesTest extends Checks {
         due(x.span(2, 11, 6), 2);
     }
 
+    // A clause does what it says and nothing else, whatever stood at its place in an earlier text.
+    private static void nothingElse() {
+        sentence("CLAUSES are done in their order.");
+        String[] some = {"house", "tone 0 0 9", "tone 3 1 2", "put 0 0 1 8 9", "put 3 1 40 2 126", "fade 0 0 4 5", "fade 3 11 64 64", "gain 0 0 16", "gain 3 11 0",
+            "shift 0 1", "shift 3 - 16", "shut 0", "shut 3"};
+        String begin = "tone 1 0 64;tone 5 5 64;put 0 0 0 64 0;put 1 0 0 64 0;put 2 0 0 64 0;put 3 0 0 64 0";
+        for (String first : some) {
+            for (String second : some) {
+                String text = first.equals("house") ? "tone 1 0 64;" + second.replace("put 3 1", "put 3 0") : second;
+                Model y = new Model();
+                for (String one : new String[] {begin, first, text}) house(y, one);
+                alike("behind '" + begin + "', '" + first + "', '" + text + "'", Look.of(() -> {
+                    House x = told(begin);
+                    house(x, first);
+                    house(x, text);
+                    return x;
+                }), Look.of(() -> new Model(y)));
+            }
+        }
+        House x = told("tone 1 0 64;put 0 0 0 64 0;put 1 0 0 64 0;put 2 0 0 64 0;put 3 0 0 64 0");
+        for (int k = 0; k < 4; k++) {
+            due(house(x, "shift " + k + " 3"), 1);
+            due(house(x, "gain " + k + " 0 3"), 1);
+            due(house(x, "fade " + k + " 0 3 3"), 1);
+            due(x.count(5), 0);
+            due(x.count(1 + k), 1);
+        }
+        due(house(x, "tone 0 0 1"), 1);
+        due(x.count(1) + x.count(2) + x.count(3) + x.count(4), 4);
+        for (int k = 0; k < 4; k++) {
+            due(house(x, "shut " + k), 1);
+            due(x.count(5), (2 << k) - 1);
+            due(x.count(18 + k), 103);
+        }
+    }
+
+    // The last of 200 letters is the last of a token of each sort.
+    private static void toTheLastLetter() {
+        sentence("or at the end, if it comes too soon");
+        for (String clause : CLAUSES) {
+            String[] tokens = clause.split(" ");
+            String ahead = "";
+            for (int i = 0; i < tokens.length; i++) {
+                ahead += (i == 0 ? "" : " ") + tokens[i];
+                House x = forty();
+                dueFault(x, " ".repeat(200 - ahead.length()) + ahead, i == tokens.length - 1 ? NONE : 200);
+                due(x.house(), i == tokens.length - 1 ? 1 : NOT);
+            }
+            House x = forty();
+            dueFault(x, " ".repeat(199 - ahead.length()) + ahead + ";", 200);
+            due(x.house(), NOT);
+            // A longer text was there ahead of it: its letters are gone.
+            x = forty();
+            write(x, "shift 0 - 1;shift 0 - 1");
+            x.erase();
+            dueFault(x, "shift 0", 7);
+            x.erase();
+            dueFault(x, "shift 0 ", 8);
+            x.erase();
+            dueFault(x, "shift 0 -", 9);
+            x.erase();
+            dueFault(x, "shift 0 - 1", NONE);
+        }
+    }
+
     private static void allForgotten() {
         sentence("Behind them nothing is kept or can be undone; RACKS are all missing.");
         List<String> texts = new ArrayList<>(List.of("shut 3", "house", "tone 1 1 1", "gain 3 0 0", "shift 0 1", "tone 1 1 1;put 0 0 0 1 0", "put 1 0 0 1 0"));
@@ -557,6 +622,8 @@ public final class TextSentencesTest extends Checks {
         fadesAndGains();
         nothingIsDone();
         twelfthAndThirteenth();
+        nothingElse();
+        toTheLastLetter();
         allForgotten();
         shuts();
         end();

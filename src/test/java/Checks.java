@@ -1,7 +1,7 @@
 import java.nio.file.Files;
 import java.nio.file.Path;
-import java.util.ArrayList;
-import java.util.List;
+import java.util.LinkedHashSet;
+import java.util.Set;
 import java.util.function.Supplier;
 
 // What the tests of the document's sentences share: the sentence that is looked at, and what is due there. They extend
@@ -14,20 +14,21 @@ abstract class Checks {
     private static final Path DOCUMENT = Path.of("../shared/DOC.md");
     private static final int MOST_TOLD = 20;
 
-    private static final List<String> sentences = new ArrayList<>();
+    private static final Set<String> sentences = new LinkedHashSet<>();
+    private static String latest = "";
     private static int wrong = 0;
     private static int looks = 0;
 
     // The words stand in the document as they stand here; end() looks whether they do.
     static void sentence(String words) {
         sentences.add(words);
+        latest = words;
     }
 
     private static void tell(String what) {
         wrong++;
         if (wrong > MOST_TOLD) return;
-        String words = sentences.isEmpty() ? "" : sentences.get(sentences.size() - 1);
-        System.out.println("\"" + words + "\"\n" + what);
+        System.out.println("\"" + latest + "\"\n" + what);
     }
 
     /** The answer of the latest call that was made is the one that is due. */

@@ -2,7 +2,7 @@ import java.util.Random;
 
 // Runs of calls by chance, always the same ones, on TapeHouse and on Model: their answers must be alike.
 public final class ModelTest {
-    private static final int RUNS = 6000;
+    private static final int RUNS = 12000;
     // A look at the end needs some of the 512 calls that an object has, a text many.
     private static final int CALLS = House.MOST_CALLS - 170;
     private static final int[] FAR = {Integer.MIN_VALUE, Integer.MIN_VALUE + 1, -129, -2, -1, 0, 1, 128, 129, 256, Integer.MAX_VALUE - 1, Integer.MAX_VALUE};
@@ -10,11 +10,14 @@ public final class ModelTest {
     private final Random chance;
     private final House x = new House();
     private final Model y = new Model();
+    // Two tracks with short spans: the 12 that a track may have, and what is refused beyond them, are met often.
+    private final boolean crowded;
     private boolean calm = false;
     private boolean wrong = false;
 
     private ModelTest(long seed) {
         chance = new Random(seed);
+        crowded = seed % 2 == 1;
     }
 
     // A number from least to most; unless it is calm, now and then just beside, now and then far off.
@@ -97,13 +100,14 @@ public final class ModelTest {
     }
 
     private void act() {
-        int track = near(0, 3), span = near(0, 7), sound = near(0, 2), m = near(1, 24), t = near(0, 110), f = near(0, 9);
+        int track = crowded && chance.nextInt(20) > 0 ? chance.nextInt(2) : near(0, 3), span = near(0, crowded ? 11 : 7), sound = near(0, 2);
+        int m = crowded ? near(1, chance.nextInt(3) == 0 ? 64 : 5) : near(1, 24), t = near(0, crowded ? 127 : 110), f = near(0, 9);
         switch (chance.nextInt(20)) {
             case 0: int a = near(0, 200), b = near(0, 200), n = near(1, 64);
                 same("tone(" + a + ", " + b + ", " + n + ")", x.tone(a, b, n), y.tone(a, b, n)); break;
             case 1: case 2: case 3: case 4: case 5:
                 same("put(" + track + ", " + sound + ", " + f + ", " + m + ", " + t + ")", x.put(track, sound, f, m, t), y.put(track, sound, f, m, t)); break;
-            case 6: case 7: case 8: int in = near(0, 8), out = near(0, 8);
+            case 6: case 7: case 8: int most = crowded ? 20 : 8, in = near(0, most), out = near(0, most);
                 same("fade(" + track + ", " + span + ", " + in + ", " + out + ")", x.fade(track, span, in, out), y.fade(track, span, in, out)); break;
             case 9: case 10: int gain = near(0, 16);
                 same("gain(" + track + ", " + span + ", " + gain + ")", x.gain(track, span, gain), y.gain(track, span, gain)); break;

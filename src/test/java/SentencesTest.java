@@ -5,13 +5,13 @@ import java.nio.file.Path;
 import java.util.regex.Matcher;
 import java.util.regex.Pattern;
 
-// Each sentence of the document, from its Terms to its last promise, is named by a test: what no test names is told.
+// Each sentence of the document, from its first line to its last promise, is named by a test: what no test names is told.
 public final class SentencesTest {
     private static final Path DOCUMENT = Path.of("../shared/DOC.md");
     private static final Path TESTS = Path.of("src/test/java");
     private static final Pattern NAMED = Pattern.compile("sentence\\(\"([^\"]*)\"\\)");
-    // Headings and what the interface says ahead of its calls promise nothing.
-    private static final String[] FREE = {"## Promise \\d+: [A-Za-z ]+ `[^`]*`:", "## Terms", "```(text)?", "======== \\d", "Ahead of the calls (`\\w+`,? )+the interface says: ---- [a-z ]+\\."};
+    // Headings and what the interface says ahead of its calls promise nothing; RulesTest has the face itself.
+    private static final String[] FREE = {"## What it is A house where tape is edited:", "## The public face ```java [^`]*```", "## Promise \\d+: [A-Za-z ]+ `[^`]*`:", "## Terms", "```(text)?", "======== \\d", "Ahead of the calls (`\\w+`,? )+the interface says: ---- [a-z ]+\\."};
 
     private static String even(String words) {
         return words.replaceAll("\\s+", " ");
@@ -19,7 +19,7 @@ public final class SentencesTest {
 
     private static String notNamed() throws IOException {
         String document = even(Files.readString(DOCUMENT));
-        int begin = document.indexOf("## Terms"), end = document.indexOf("## Not promised");
+        int begin = document.indexOf("## What it is"), end = document.indexOf("## Not promised");
         if (begin < 0 || end < begin) return "the document has other parts than it had";
         boolean[] isNamed = new boolean[end];
         try (DirectoryStream<Path> tests = Files.newDirectoryStream(TESTS, "*Test.java")) {
